@@ -43,6 +43,7 @@ public final class PromisesTest {
         keep();
         back();
         count();
+        asItStands();
         Checks.end();
     }
 
@@ -454,6 +455,8 @@ public final class PromisesTest {
         orderIs(mill("c0;c0;s1;"), 1, NONE);
         orderIs(mill("c0;c0;c0;c0;c0;c0;s9;"), 5, 9, 0, 1, 2, 3, 4, 5);
         orderIs(mill("c0;c0;c0;o1,0,6;a1;"), 0, 4, 0, 2);
+        // only where each one waits ahead of him who praises him the stone is worn five times
+        orderIs(mill(SIX + "s2;o0,1,6;o1,2,6;o2,3,6;o3,4,6;o4,5,6;"), 0, 7, 5, 4, 3, 2, 1, 0);
         x.change(0, 2);
         orderIs(x, 2, 7, 1, 2, 0);
         due("15: k 7", x.order(0, 7), BAD);
@@ -476,6 +479,7 @@ public final class PromisesTest {
         due("16: but who is away", mill("c0;c0;c0;s1;a1;").helpless(), 5);
         due("16: one whom another helps", mill("c0;c0;o1,0,5;s0;").helpless(), 2);
         due("16: helped by a worn stone", mill("c0;c0;c0;o1,0,6;s1;").helpless(), 0);
+        due("16: the first one, too, but not in the first order", mill("c0;c0;c0;o2,1,6;s1;").helpless(), 0);
         due("16: not by who is away", mill("c0;c0;c0;o1,0,6;s1;a1;").helpless(), 5);
         due("16: nobody there", mill("c0;a0;s0;").helpless(), 0);
         due("16: as they can stand", mill("c0;c1;o0,1,6;s0;").helpless(), 1);
@@ -495,6 +499,10 @@ public final class PromisesTest {
         due("17: a wit's 3 is 3 less", mill("c0;c4;o1,0,6;s4;").words(0, 2), NONE);
         due("17: behind a wit's 3 nobody else's is heard", mill("c0;c4;c0;s4;").words(0, 2), 4);
         due("17: and here the wit's is what it is", mill("c0;c4;c0;o1,0,6;s4;").words(0, 2), NONE);
+        due("17: by the first one", mill("c0;c4;c0;o0,2,4;s4;").words(0, 2), 4);
+        GroundByHearsay turned = mill("c0;c0;c0;s2;");
+        turned.change(0, 2);
+        due("17: by the first one told, who stands last", turned.words(2, 2), 1);
         due("17: he has it", mill("c0;c0;s8;").words(0, 3), 0);
         GroundByHearsay y = mill("c0;c0;c1;s0;a1;");
         due("17: who is away helps not", y.words(0, 1), 4);
@@ -792,5 +800,68 @@ public final class PromisesTest {
             due("27: count(" + wild + ")", x.count(wild), BAD);
         }
         due("27: bran by 1, brown by 2", mill("c0;s2;").count(4), 0);
+    }
+
+    /** A text that is only looked at, ahead of each call, has no part in the answers. */
+    private static void asItStands() {
+        GroundByHearsay x = mill("c0;c0;c1;o1,0,6;a2;s4;");
+        Checks.rewrite(x, "c4;s9;");
+        int[] dues = {0, 1, 1, 6, 7, 2, 7, 5, 7, 1, 0, NONE, 0, NO, 1, 112, 256 + 3, 2, 7, 10, 5, 0, 0, 5};
+        for (int which = 0; which < dues.length; which++) {
+            due("4: no fault", x.fault(), NONE);
+            due("5: as laid, question " + which, asWhich(x, which), dues[which]);
+        }
+        x.fault();
+        due("9: as laid", x.change(0, 1), 1);
+        x.fault();
+        due("13: as laid, undone", x.undo(), 0);
+        x.fault();
+        due("11: as laid", x.say(2, 1, 0), 3);
+        x.fault();
+        due("10: as laid", x.away(2), 0);
+        x.fault();
+        due("25: as laid", x.keep(), 1);
+        x.fault();
+        due("12: as laid", x.day(), 1);
+        due("12: by 7, 0 and 4", x.count(2), 4);
+        x.fault();
+        due("13: the day undone", x.undo(), 2);
+        due("13: come again undone", x.undo(), 1);
+        due("13: away", x.customer(2, 2), 1);
+        due("13: the word undone", x.undo(), 0);
+        due("13: as said before", x.says(2, 1), 3);
+        x.fault();
+        due("26: as kept", x.back(), 0);
+        due("26: the word", x.says(2, 1), 0);
+        due("26: there", x.count(1), 0);
+    }
+
+    private static int asWhich(GroundByHearsay x, int which) {
+        switch (which) {
+            case 0: return x.customer(1, 0);
+            case 1: return x.customer(1, 1);
+            case 2: return x.customer(2, 2);
+            case 3: return x.says(1, 0);
+            case 4: return x.fine(0, 0);
+            case 5: return x.fine(1, 1);
+            case 6: return x.behind(1, 0);
+            case 7: return x.behind(1, -1);
+            case 8: return x.order(0, 0);
+            case 9: return x.order(0, 2);
+            case 10: return x.helpless();
+            case 11: return x.words(0, 3);
+            case 12: return x.words(0, 2);
+            case 13: return x.words(2, 0);
+            case 14: return x.see(1, 5);
+            case 15: return x.said(1, 0);
+            case 16: return x.stood(0);
+            case 17: return x.mouths(0);
+            case 18: return x.chance(0, 2, 3, 0);
+            case 19: return x.chance(0, 2, 3, 1);
+            case 20: return x.year(0, 1, 0);
+            case 21: return x.year(0, 1, 1);
+            case 22: return x.count(4);
+            default: return x.behind(1, 1);
+        }
     }
 }
