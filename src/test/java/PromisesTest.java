@@ -499,6 +499,7 @@ public final class PromisesTest {
         due("17: a wit's 3 is 3 less", mill("c0;c4;o1,0,6;s4;").words(0, 2), NONE);
         due("17: behind a wit's 3 nobody else's is heard", mill("c0;c4;c0;s4;").words(0, 2), 4);
         due("17: and here the wit's is what it is", mill("c0;c4;c0;o1,0,6;s4;").words(0, 2), NONE);
+        due("17: fewest, not lowest", mill("c0;c0;c2;c1;s2;").words(0, 3), 8);
         due("17: by the first one", mill("c0;c4;c0;o0,2,4;s4;").words(0, 2), 4);
         GroundByHearsay turned = mill("c0;c0;c0;s2;");
         turned.change(0, 2);
@@ -834,6 +835,10 @@ public final class PromisesTest {
         due("26: as kept", x.back(), 0);
         due("26: the word", x.says(2, 1), 0);
         due("26: there", x.count(1), 0);
+        GroundByHearsay coarse = mill("c0;c0;s1;");
+        Checks.rewrite(coarse, "c0;s9;");
+        coarse.fault();
+        due("16: as laid", coarse.helpless(), 3);
     }
 
     private static int asWhich(GroundByHearsay x, int which) {
