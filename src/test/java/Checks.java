@@ -3,18 +3,25 @@ final class Checks {
     static final int BAD = GroundByHearsay.BAD, NO = GroundByHearsay.NO;
     static final int FULL = GroundByHearsay.FULL, NONE = GroundByHearsay.NONE;
     static final int[] WILD = {Integer.MIN_VALUE, -100, -1, 100, 70000, Integer.MAX_VALUE};
+    static final String SIX = "c0;c0;c0;c0;c0;c0;";
 
     private static int wrong;
     private static int made;
+    private static String words = "";
 
     private Checks() {
+    }
+
+    /** The words of the document that the checks from here on hold to. */
+    static void sentence(String quoted) {
+        words = quoted + " | ";
     }
 
     static void due(String what, long got, long want) {
         made++;
         if (got != want) {
             wrong++;
-            System.out.println(what + " answered " + got + ", due is " + want);
+            System.out.println(words + what + " answered " + got + ", due is " + want);
         }
     }
 

@@ -4,6 +4,8 @@ import java.util.Random;
 public final class ModelTest {
     private static final int RUNS = 600;
     private static final int CALLS = 512;
+    /** A text of at most 200 letters, wiped, looked at and laid. */
+    private static final int CALLS_TO_LAY = 203;
 
     private final Random random;
     private final GroundByHearsay x = new GroundByHearsay();
@@ -27,7 +29,7 @@ public final class ModelTest {
             layAnother();
         }
         while (calls < CALLS) {
-            if (random.nextInt(150) == 0) {
+            if (random.nextInt(150) == 0 && calls + CALLS_TO_LAY < CALLS) {
                 layAnother();
             }
             int[] answers = answers(random.nextInt(60));

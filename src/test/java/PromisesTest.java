@@ -1,7 +1,7 @@
 /** The promises of ../shared/DOC.md one by one, with answers worked out by hand. */
 public final class PromisesTest {
     private static final int BAD = Checks.BAD, NO = Checks.NO, FULL = Checks.FULL, NONE = Checks.NONE;
-    private static final String SIX = "c0;c0;c0;c0;c0;c0;";
+    private static final String SIX = Checks.SIX;
 
     private static void due(String what, long got, long want) {
         Checks.due(what, got, want);
