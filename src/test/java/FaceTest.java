@@ -5,7 +5,9 @@ import java.lang.reflect.Method;
 import java.lang.reflect.Modifier;
 import java.nio.file.Files;
 import java.nio.file.Path;
+import java.util.ArrayList;
 import java.util.Arrays;
+import java.util.List;
 import java.util.Set;
 import java.util.TreeSet;
 import java.util.regex.Matcher;
@@ -22,6 +24,7 @@ public final class FaceTest {
         fields();
         constructors();
         classesInside();
+        measures();
         source(Files.readString(Path.of(System.getProperty("main.source", "src/main/java/GroundByHearsay.java"))));
         Checks.end();
     }
@@ -76,7 +79,38 @@ public final class FaceTest {
         }
     }
 
+    private static void measures() {
+        List<Class<?>> all = new ArrayList<>(Arrays.asList(GroundByHearsay.class.getDeclaredClasses()));
+        all.add(GroundByHearsay.class);
+        for (Class<?> one : all) {
+            int held = 0;
+            for (Field f : one.getDeclaredFields()) {
+                int how = f.getModifiers();
+                held += Modifier.isStatic(how) ? 0 : 1;
+                Checks.isSo("no static state: " + f, !Modifier.isStatic(how) || Modifier.isFinal(how));
+            }
+            Checks.isSo("at most twenty fields: " + one, held <= 20);
+            for (Method m : one.getDeclaredMethods()) {
+                Checks.isSo("at most seven parameters: " + m, m.getParameterCount() <= 7);
+            }
+        }
+    }
+
+    /** A method begins and ends at the same indent of 4 or 8. */
+    private static void lengths(String code) {
+        String head = "^( {4}| {8})(?! )[^=\\n;]*\\([^\\n;]*\\) \\{\\n";
+        Matcher method = Pattern.compile("(?m)" + head + "(?:\\1 .*\\n|\\n)*\\1\\}$").matcher(code);
+        int found = 0;
+        while (method.find()) {
+            found++;
+            String text = method.group();
+            Checks.isSo("at most sixty lines: " + text.lines().findFirst().orElse(""), text.lines().count() <= 60);
+        }
+        Checks.isSo("the methods were found", found > 90);
+    }
+
     private static void source(String whole) {
+        lengths(whole);
         String code = whole.replaceAll("(?s)/\\*.*?\\*/", "").replaceAll("//.*", "");
         for (String out : new String[] {"->", "::", "\\btry\\b", "\\bcatch\\b", "\\bfinally\\b", "\\bsynchronized\\b",
             "\\bassert\\b", "\\bthrow\\b", "\\bprotected\\b", "\\bpackage\\b", "\\bstatic\\s*\\{", "\\bhashCode\\b",

@@ -473,7 +473,7 @@ public final class LineEdgesTest {
     }
 
     private static void eachKindUndone() {
-        Checks.sentence("Two can change PLACES in the LINE; one go AWAY, come again; other words be SAID. UNDONE is the latest");
+        Checks.sentence("Two can change PLACES in the LINE; one go AWAY, come again; other words be SAID. UNDONE is ..");
         GroundByHearsay x = mill("c0;c0;c0;o1,0,6;s4;a2;");
         x.change(0, 2);
         due("places", x.undo(), 0);
