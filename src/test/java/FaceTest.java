@@ -8,7 +8,9 @@ import java.nio.file.Path;
 import java.util.ArrayList;
 import java.util.Arrays;
 import java.util.List;
+import java.util.Map;
 import java.util.Set;
+import java.util.TreeMap;
 import java.util.TreeSet;
 import java.util.regex.Matcher;
 import java.util.regex.Pattern;
@@ -96,22 +98,52 @@ public final class FaceTest {
         }
     }
 
-    /** A method begins and ends at the same indent of 4 or 8. */
-    private static void lengths(String code) {
-        String head = "^( {4}| {8})(?! )[^=\\n;]*\\([^\\n;]*\\) \\{\\n";
-        Matcher method = Pattern.compile("(?m)" + head + "(?:\\1 .*\\n|\\n)*\\1\\}$").matcher(code);
-        int found = 0;
+    /** The text of each method by its name, those of one name together: it begins and ends at the same indent, 4 or 8. */
+    private static Map<String, String> bodies(String code) {
+        String head = "^( {4}| {8})(?! )[^=\\n;]*?(\\w+)\\([^\\n;]*\\) \\{\\n";
+        Matcher method = Pattern.compile("(?m)" + head + "((?:\\1 .*\\n|\\n)*)\\1\\}$").matcher(code);
+        Map<String, String> found = new TreeMap<>();
+        int many = 0;
         while (method.find()) {
-            found++;
-            String text = method.group();
-            Checks.isSo("at most sixty lines: " + text.lines().findFirst().orElse(""), text.lines().count() <= 60);
+            many++;
+            Checks.isSo("at most sixty lines: " + method.group(2), method.group().lines().count() <= 60);
+            found.merge(method.group(2), method.group(3), String::concat);
         }
-        Checks.isSo("the methods were found", found > 90);
+        Checks.isSo("the methods were found", many > 90);
+        return found;
+    }
+
+    private static void makings(Map<String, String> bodies) {
+        for (Map.Entry<String, String> one : bodies.entrySet()) {
+            boolean isConstructor = Character.isUpperCase(one.getKey().charAt(0));
+            Checks.isSo("makes no object: " + one.getKey(),
+                isConstructor || !Pattern.compile("\\bnew\\b").matcher(one.getValue()).find());
+        }
+    }
+
+    private static void depths(Map<String, String> bodies) {
+        for (String name : bodies.keySet()) {
+            Checks.isSo("at most eight deep, and no recursion: " + name, depth(bodies, name, 0) <= 8);
+        }
+    }
+
+    /** How many calls stand open at once from that one on; more than 8 where there is no end. */
+    private static int depth(Map<String, String> bodies, String name, int open) {
+        int deepest = 0;
+        Matcher called = Pattern.compile("(\\w+)\\(").matcher(bodies.get(name));
+        while (called.find() && open <= 8) {
+            if (bodies.containsKey(called.group(1))) {
+                deepest = Math.max(deepest, depth(bodies, called.group(1), open + 1));
+            }
+        }
+        return deepest + 1;
     }
 
     private static void source(String whole) {
-        lengths(whole);
         String code = whole.replaceAll("(?s)/\\*.*?\\*/", "").replaceAll("//.*", "");
+        Map<String, String> bodies = bodies(code);
+        makings(bodies);
+        depths(bodies);
         for (String out : new String[] {"->", "::", "\\btry\\b", "\\bcatch\\b", "\\bfinally\\b", "\\bsynchronized\\b",
             "\\bassert\\b", "\\bthrow\\b", "\\bprotected\\b", "\\bpackage\\b", "\\bstatic\\s*\\{", "\\bhashCode\\b",
             "System\\.(?!arraycopy)", "Exact\\(", "\\bRandom\\b", "\\[\\]\\s*\\[\\]\\s*\\[\\]", "\\bvar\\b"}) {
